@@ -776,7 +776,7 @@ public final class AppealsDown {
         for (int lot = 0; lot < n; lot++) {
             for (int point = 0; point < stand.many; point++) {
                 seed = seed * 1103515245 + 12345;
-                stand.put(point, (seed & Integer.MAX_VALUE) / 65536 % 19 - 9);
+                stand.put(point, (seed & 0x7FFFFFFF) / 65536 % 19 - 9);
             }
             boolean atFirst = stand.isFor();
             now.goDown(stand, now.courts);
@@ -1120,7 +1120,7 @@ public final class AppealsDown {
         return all;
     }
 
-    /** Of numbers not below 0; at most 64 bits halve away at every second step. */
+    /** Of numbers not below 0; the rest at least halves at every second step, so 200 are plenty. */
     private static long commonDivisor(long one, long two) {
         long a = one;
         long b = two;

@@ -124,6 +124,7 @@ public final class DownTest {
         rounded("n7;p0+8;p1+3;p2+8;p3+5;p4-6;p5-6;p6-3;l5; c2500;c2900;c2000;c5900;c3800;c3600;", -9, -99, -9);
         rounded("n2;p0-6;p1-4;l0;c2000;c3600;", -9, -99, 4);
         rounded("n2;p0-4;p1-5;l0;c2500;c2300;c3300;c3800;", -9, -99, -9);
+        rounded("p0+1;p1+2;p2-1;p3+2;l2;c2400;c2500;c5600;c3800;", -9, -99, 164);
         AppealsDown x = new AppealsDown();
         due("14: round(3)", x.round(3), HIGH + 2);
         due("14: round(-1)", x.round(-1), HIGH + 2);
@@ -165,6 +166,15 @@ public final class DownTest {
         appealed("n1;p0+9;c1010;c1000;s000;", 1, 0, 0, 0);
         appealed("n1;p0+9;c1010;c1000;s001;", 2, 1, 0, 0);
         appealed(LONG, 1, 0, 0, 0);
+        AppealsDown y = Check.of("n1;p0-9;c1010;c1020;");
+        due("15: against", y.appeals(3), 20);
+        y.point(0, 9);
+        due("15: for", y.appeals(2), 20);
+        due("15: two courts less", Check.tell(y, "u;u;"), 2);
+        int[] none = {0, 1, 0, 0};
+        for (int what = 0; what < 4; what++) {
+            due("15: no courts any more", y.appeals(what), none[what]);
+        }
         AppealsDown x = new AppealsDown();
         due("15: appeals(4)", x.appeals(4), -2);
         due("15: appeals(-1)", x.appeals(-1), -2);
@@ -209,6 +219,8 @@ public final class DownTest {
         byTurns("n2;p0+9;p1+0;", 1, 9, 1);
         byTurns("n2;p0-9;p1+9;", 1, 0, 0);
         byTurns("n3;p0+9;p1+9;p2+8;", 2, 26, 2);
+        // Of (7, 7) a BENCH makes 0, of whatever else is one step away -1, two steps away -2 or 0: each must step.
+        byTurns("n2;p0+7;p1+7;c1000;", 1, -2, 0);
         AppealsDown x = new AppealsDown();
         due("17: turnsBy(-1, 2)", x.turnsBy(-1, 2), HIGH + 4);
         due("17: turnsBy(3, 2)", x.turnsBy(3, 2), HIGH + 6);
@@ -281,6 +293,9 @@ public final class DownTest {
 
     private static void promise21() {
         firsts("n3;p0+2;p1-1;p2-3;", 1, 2, -1, -3);
+        firsts("n3;p0-4;p1-4;p2-4;", 1, -4, -4, -4);
+        firsts("n3;p0+4;p1+4;p2+4;", 1, 4, 4, 4);
+        firsts("n3;p0+5;p1-4;p2-4;", 0);
         firsts("n3;p0+5;", 0);
         firsts("n3;c0000;", 7, -1, 0, 0);
         firsts("n3;p0+4;c1000;", 1, -4, 0, 0);

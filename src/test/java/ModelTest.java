@@ -45,7 +45,7 @@ public final class ModelTest {
 
     private int number() {
         return below(40) == 0 ? pick(Integer.MIN_VALUE, Integer.MAX_VALUE, -10, 10, 100, 999, 1000, 256)
-                : below(4) == 0 ? below(22) - 2 : below(9) - 1;
+                : below(4) == 0 ? below(22) - 2 : below(2) == 0 ? below(3) : below(9) - 1;
     }
 
     private String statement() {
@@ -165,10 +165,33 @@ public final class ModelTest {
         }
     }
 
+    /** All arguments that matter, of some methods, at one case. */
+    private void sweep(int run) throws ReflectiveOperationException {
+        AppealsDown x = new AppealsDown();
+        Plain y = new Plain();
+        fill(x, y, run);
+        for (int some = 0; some < 5; some++) {
+            int which = below(methods.size());
+            Method method = methods.get(which);
+            int many = method.getParameterCount();
+            int firsts = many == 0 ? 1 : 13;
+            int seconds = many < 2 ? 1 : 6;
+            for (int i = 0; i < firsts * seconds; i++) {
+                Object[] args = new Object[many];
+                for (int at = 0; at < many; at++) {
+                    args[at] = at == 0 ? i / seconds - 2 : at == 1 ? i % seconds - 1 : below(10) - 1;
+                }
+                long[] answers = both(x, y, which, args);
+                check.due("sweep " + run + ": " + method.getName() + Arrays.toString(args), answers[0], answers[1]);
+            }
+        }
+    }
+
     public static void main(String[] args) throws ReflectiveOperationException {
         ModelTest test = new ModelTest();
         for (int run = 0; run < RUNS; run++) {
             test.run(run);
+            test.sweep(run);
         }
         test.check.end("ModelTest");
     }

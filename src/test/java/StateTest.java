@@ -283,12 +283,42 @@ public final class StateTest {
         due("9: older ones no more", x.back(), -3);
         due("9: POINT 0", x.down(0, 0), 1);
         refusals("9", x, 0, 0, 3, 0, 0);
+        mixed();
         x.point(0, 4);
         x.image();
         x.clear();
         x.feed(65);
         x.point(9, 0);
         due("9: others leave it", x.count(6), 1);
+    }
+
+    /** Ten of all sorts, of which the first two are no more when the others are TAKEN BACK. */
+    private static void mixed() {
+        AppealsDown x = some();
+        x.kind(0, 1, 1);
+        x.point(2, 9);
+        x.point(1, -9);
+        x.kind(1, 4, 2);
+        x.lowest(3, 3, 3);
+        x.kind(2, 0, 9);
+        x.point(0, 0);
+        x.kind(0, 5, 5);
+        x.lowest(2, 1, 8);
+        x.point(1, 3);
+        int[][] want = {
+            // POINTS 0, 1, 2, how many courts, KIND and FIGURE of courts 0, 1
+            {0, -9, 9, 4, 55, 42}, {0, -9, 9, 3, 55, 42}, {0, -9, 9, 3, 11, 42}, {5, -9, 9, 3, 11, 42},
+            {5, -9, 9, 3, 11, 42}, {5, -9, 9, 2, 11, 42}, {5, -9, 9, 2, 11, 50}, {5, -4, 9, 2, 11, 50}};
+        for (int i = 0; i < want.length; i++) {
+            due("9: mixed, back()", x.back(), 7 - i);
+            for (int p = 0; p < 3; p++) {
+                due("9: mixed " + i + ", POINT " + p, x.down(0, p), want[i][p]);
+            }
+            due("9: mixed " + i + ", courts", x.count(0), want[i][3]);
+            due("9: mixed " + i + ", court 0", 10 * x.court(0, 0) + x.court(0, 1), want[i][4]);
+            due("9: mixed " + i + ", court 1", 10 * x.court(1, 0) + x.court(1, 1), want[i][5]);
+        }
+        due("9: mixed, older ones", x.back(), -3);
     }
 
     private static void promise46to48() {
