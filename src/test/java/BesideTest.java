@@ -2,19 +2,8 @@
 public final class BesideTest {
     private static final Check CHECK = new Check();
 
-    /** Sums going down: 5, 0, 16, -1, -1 (the BOY would send it back), 2, -6. */
-    private static final String LONG =
-            "c0010;c1020;c2005;c3702;c4001;c5000;p0+7;p1-3;p2+9;p3-8;s050;l3;";
-
     private static void due(String call, long got, long want) {
         CHECK.due(call, got, want);
-    }
-
-    private static void refusals(String when, AppealsDown x, int... many) {
-        for (int i = 0; i < 5; i++) {
-            int what = i == 4 ? 16 : 11 + i;
-            due(when + ": count(" + what + ")", x.count(what), many[i]);
-        }
     }
 
     private static void promise33() {
@@ -32,7 +21,7 @@ public final class BesideTest {
         due("33: worst(-1, 0)", x.worst(-1, 0), -1);
         due("33: worst(0, 2)", x.worst(0, 2), -2);
         due("33: worst(0, -1)", x.worst(0, -1), -2);
-        refusals("33", x, 2, 2, 0, 0, 0);
+        CHECK.refusals("33", x, 2, 2, 0, 0, 0);
         // Ahead of a BENCH: what the first makes least it makes most.
         AppealsDown y = Check.of("n1;p0+5;c0400;c1000;");
         due("33: ahead of a BENCH", y.worst(0, 0), 0);
@@ -78,7 +67,7 @@ public final class BesideTest {
         AppealsDown x = new AppealsDown();
         due("36: flip(2)", x.flip(2), -2);
         due("36: flip(-1)", x.flip(-1), -2);
-        refusals("36", x, 0, 2, 0, 0, 0);
+        CHECK.refusals("36", x, 0, 2, 0, 0, 0);
     }
 
     private static void promise37() {
@@ -92,7 +81,7 @@ public final class BesideTest {
         due("37: behind a COURT", Check.of("n1;p0+0;c0000;").margin(), 2);
         due("37: behind two", Check.of("n1;p0+0;c0000;c0000;").margin(), -9);
         due("37: behind a BENCH", Check.of("n1;p0+1;c1000;").margin(), 2);
-        due("37: LONG", Check.of(LONG).margin(), 1);
+        due("37: LONG", Check.of(Check.LONG).margin(), 1);
     }
 
     private static void promise38() {
@@ -119,7 +108,7 @@ public final class BesideTest {
         x.row(19);
         x.row(9);
         due("38: one above 18", x.beats(), -3);
-        refusals("38", x, 0, 0, 4, 0, 0);
+        CHECK.refusals("38", x, 0, 0, 4, 0, 0);
     }
 
     private static void promise39() {
@@ -134,7 +123,7 @@ public final class BesideTest {
         due("39: commute(0, 4)", x.commute(0, 4), -1);
         due("39: commute(4, 0)", x.commute(4, 0), -1);
         due("39: commute(-1, 0)", x.commute(-1, 0), -1);
-        refusals("39", x, 4, 0, 0, 0, 0);
+        CHECK.refusals("39", x, 4, 0, 0, 0, 0);
     }
 
     private static void again(String text, int times, int round) {
@@ -158,7 +147,7 @@ public final class BesideTest {
         due("40: again(-1, 0)", x.again(-1, 0), -1);
         due("40: again(0, 2)", x.again(0, 2), -2);
         due("40: again(0, -1)", x.again(0, -1), -2);
-        refusals("40", x, 2, 2, 0, 0, 0);
+        CHECK.refusals("40", x, 2, 2, 0, 0, 0);
     }
 
     private static void promise41() {
@@ -168,7 +157,7 @@ public final class BesideTest {
         due("41: a BOY", x.bestLowest(6), 3);
         due("41: bestLowest(-1)", x.bestLowest(-1), -4);
         due("41: bestLowest(10)", x.bestLowest(10), -6);
-        refusals("41", x, 0, 0, 0, 1, 1);
+        CHECK.refusals("41", x, 0, 0, 0, 1, 1);
         due("41: no court comes", x.count(0), 0);
         x.set(2, 0);
         due("41: a BOY who would send it back", x.bestLowest(9), 1);
@@ -179,12 +168,12 @@ public final class BesideTest {
     }
 
     private static void promise42() {
-        AppealsDown x = Check.of(LONG);
+        AppealsDown x = Check.of(Check.LONG);
         due("42: behind how many", x.peak(0), 2);
         due("42: SUM and 100", x.peak(1), 116);
         due("42: peak(2)", x.peak(2), -2);
         due("42: peak(-1)", x.peak(-1), -2);
-        refusals("42", x, 0, 2, 0, 0, 0);
+        CHECK.refusals("42", x, 0, 2, 0, 0, 0);
         AppealsDown y = Check.of("n1;p0+5;c1000;c1000;");
         due("42: at first", y.peak(0), 0);
         due("42: at first", y.peak(1), 105);
@@ -210,7 +199,7 @@ public final class BesideTest {
     }
 
     private static void promise44and45() {
-        due("44: LONG", Check.of(LONG).heard(), 5);
+        due("44: LONG", Check.of(Check.LONG).heard(), 5);
         due("44: none", new AppealsDown().heard(), 0);
         due("44: of 0", Check.of("n1;c0000;c1000;").heard(), 0);
         due("44: though SUM stays", Check.of("n2;p0+1;p1-1;c4000;c1000;").heard(), 1);
@@ -219,10 +208,10 @@ public final class BesideTest {
         due("45: COURT and ASSIZE", x.lastSay(), 17);
         x.set(2, 0);
         due("45: and a BOY who would send it back", x.lastSay(), 25);
-        due("45: LONG", Check.of(LONG).lastSay(), 8);
+        due("45: LONG", Check.of(Check.LONG).lastSay(), 8);
         AppealsDown y = new AppealsDown();
         due("45: no courts", y.lastSay(), -3);
-        refusals("45", y, 0, 0, 1, 0, 0);
+        CHECK.refusals("45", y, 0, 0, 1, 0, 0);
         due("45: the lowest alone", Check.of("n1;p0+5;c1000;c0000;").lastSay(), 2 + 4 + 32);
         due("45: of its FIGURE", Check.of("n1;p0-5;c0300;").lastSay(), 2 + 4 + 8 + 32);
         due("45: of its FIGURE", Check.of("n1;p0-5;c0000;").lastSay(), 2 + 4 + 32);

@@ -1,5 +1,8 @@
 /** Counts the answers that are not as due, and makes objects from a case told in letters. */
 final class Check {
+    /** Sums going down: 5, 0, 16, -1, -1 (the BOY would send it back), 2, -6. */
+    static final String LONG = "c0010;c1020;c2005;c3702;c4001;c5000;p0+7;p1-3;p2+9;p3-8;s050;l3;";
+
     private int looked = 0;
     private int wrong = 0;
 
@@ -11,6 +14,15 @@ final class Check {
                 System.out.println(call + " answered " + got + ", due is " + want);
             }
         }
+    }
+
+    /** The REFUSALS -1, -2, -3, -4, -6 so far; -5 never is. */
+    void refusals(String when, AppealsDown x, int... many) {
+        for (int i = 0; i < 5; i++) {
+            int what = i == 4 ? 16 : 11 + i;
+            due(when + ": count(" + what + ")", x.count(what), many[i]);
+        }
+        due(when + ": count(15)", x.count(15), 0);
     }
 
     void end(String name) {

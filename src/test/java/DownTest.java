@@ -3,19 +3,8 @@ public final class DownTest {
     private static final int HIGH = 1000000000;
     private static final Check CHECK = new Check();
 
-    /** Sums going down: 5, 0, 16, -1, -1 (the BOY would send it back), 2, -6. */
-    private static final String LONG =
-            "c0010;c1020;c2005;c3702;c4001;c5000;p0+7;p1-3;p2+9;p3-8;s050;l3;";
-
     private static void due(String call, long got, long want) {
         CHECK.due(call, got, want);
-    }
-
-    private static void refusals(String when, AppealsDown x, int... many) {
-        for (int i = 0; i < 5; i++) {
-            int what = i == 4 ? 16 : 11 + i;
-            due(when + ": count(" + what + ")", x.count(what), many[i]);
-        }
     }
 
     private static void behind(String text, int... want) {
@@ -50,7 +39,7 @@ public final class DownTest {
     }
 
     private static void promise10() {
-        AppealsDown x = Check.of(LONG);
+        AppealsDown x = Check.of(Check.LONG);
         int[] sums = {5, 0, 16, -1, -1, 2, -6};
         for (int k = 0; k < sums.length; k++) {
             due("10: SUM behind " + k, x.down(k, 8), sums[k]);
@@ -64,14 +53,14 @@ public final class DownTest {
         due("10: down(6, -1)", x.down(6, -1), HIGH + 2);
         due("10: no such POINT", x.down(6, 4), HIGH + 2);
         due("10: no such POINT", x.down(6, 7), HIGH + 2);
-        refusals("10", x, 0, 4, 0, 1, 1);
+        CHECK.refusals("10", x, 0, 4, 0, 1, 1);
         due("10: all POINTS stay", x.down(0, 0), 7);
         x.set(0, 8);
         due("10: POINT 7", x.down(0, 7), 0);
     }
 
     private static void promise11to13() {
-        AppealsDown x = Check.of(LONG);
+        AppealsDown x = Check.of(Check.LONG);
         due("11: turns(0)", x.turns(0), 0);
         due("11: turns(1)", x.turns(1), 5);
         due("11: turns(2)", x.turns(2), -2);
@@ -83,7 +72,7 @@ public final class DownTest {
         due("12: costs(-1)", x.costs(-1), -4);
         due("12: costs(7)", x.costs(7), -6);
         due("13: up()", x.up(), 3);
-        refusals("11", x, 0, 2, 0, 1, 1);
+        CHECK.refusals("11", x, 0, 2, 0, 1, 1);
         AppealsDown y = Check.of("n2;p0+9;p1+9;c0000;c0000;");
         due("11: first", y.turns(0), -9);
         due("11: how many", y.turns(1), 0);
@@ -128,7 +117,7 @@ public final class DownTest {
         AppealsDown x = new AppealsDown();
         due("14: round(3)", x.round(3), HIGH + 2);
         due("14: round(-1)", x.round(-1), HIGH + 2);
-        refusals("14", x, 0, 2, 0, 0, 0);
+        CHECK.refusals("14", x, 0, 2, 0, 0, 0);
     }
 
     /** SUM at the end of the run of just 200: Plain tells it, because no hand goes through 200 courts. */
@@ -165,7 +154,7 @@ public final class DownTest {
         appealed("n1;p0+9;c1010;c0060;c1060;s120;", 1, 0, 0, 0);
         appealed("n1;p0+9;c1010;c1000;s000;", 1, 0, 0, 0);
         appealed("n1;p0+9;c1010;c1000;s001;", 2, 1, 0, 0);
-        appealed(LONG, 1, 0, 0, 0);
+        appealed(Check.LONG, 1, 0, 0, 0);
         AppealsDown y = Check.of("n1;p0-9;c1010;c1020;");
         due("15: against", y.appeals(3), 20);
         y.point(0, 9);
@@ -178,7 +167,7 @@ public final class DownTest {
         AppealsDown x = new AppealsDown();
         due("15: appeals(4)", x.appeals(4), -2);
         due("15: appeals(-1)", x.appeals(-1), -2);
-        refusals("15", x, 0, 2, 0, 0, 0);
+        CHECK.refusals("15", x, 0, 2, 0, 0, 0);
     }
 
     private static void pressed(String text, int bits, int many) {
@@ -202,7 +191,7 @@ public final class DownTest {
         AppealsDown x = new AppealsDown();
         due("16: press(2)", x.press(2), -2);
         due("16: press(-1)", x.press(-1), -2);
-        refusals("16", x, 0, 2, 0, 0, 0);
+        CHECK.refusals("16", x, 0, 2, 0, 0, 0);
     }
 
     private static void byTurns(String text, int m, int sum, int point) {
@@ -226,7 +215,7 @@ public final class DownTest {
         due("17: turnsBy(3, 2)", x.turnsBy(3, 2), HIGH + 6);
         due("17: turnsBy(0, 2)", x.turnsBy(0, 2), HIGH + 2);
         due("17: turnsBy(2, -1)", x.turnsBy(2, -1), HIGH + 2);
-        refusals("17", x, 0, 2, 0, 1, 1);
+        CHECK.refusals("17", x, 0, 2, 0, 1, 1);
     }
 
     private static void promise18and19() {
@@ -239,10 +228,10 @@ public final class DownTest {
         due("19: a BENCH, f 0", Check.of("c1000;").survive(0), 1);
         due("19: a COURT and a BENCH twice, f 0", Check.of("n1;c0000;c1000;c1000;").survive(0), 1);
         due("19: a BOY who sends it back", Check.of("l0;c3900;").survive(1), 27);
-        AppealsDown x = Check.of(LONG);
+        AppealsDown x = Check.of(Check.LONG);
         due("19: survive(-1)", x.survive(-1), -4);
         due("19: survive(5)", x.survive(5), -6);
-        refusals("19", x, 0, 0, 0, 1, 1);
+        CHECK.refusals("19", x, 0, 0, 0, 1, 1);
         due("19: POINTS stay", x.count(1), 4);
     }
 
@@ -276,7 +265,7 @@ public final class DownTest {
         due("20: three numbers", y.fits(0), -3);
         y.row(9);
         due("20: one above 18", y.fits(9), -3);
-        refusals("20", y, 0, 0, 2, 1, 1);
+        CHECK.refusals("20", y, 0, 0, 2, 1, 1);
         y.clear();
         due("20: no numbers", y.fits(9), -3);
     }
@@ -306,7 +295,7 @@ public final class DownTest {
         due("21: four POINTS", x.first(-1), HIGH + 3);
         x.set(0, 2);
         due("21: two POINTS", x.first(0), HIGH + 3);
-        refusals("21", x, 0, 0, 2, 1, 0);
+        CHECK.refusals("21", x, 0, 0, 2, 1, 0);
     }
 
     private static void promise22() {
@@ -324,7 +313,7 @@ public final class DownTest {
         due("22: apart(0, -1, 10)", x.apart(0, -1, 10), -2);
         due("22: apart(0, 1, -1)", x.apart(0, 1, -1), -4);
         due("22: apart(0, 1, 10)", x.apart(0, 1, 10), -6);
-        refusals("22", x, 0, 2, 0, 1, 1);
+        CHECK.refusals("22", x, 0, 2, 0, 1, 1);
         due("22: POINTS stay", x.count(1), 1);
     }
 

@@ -28,15 +28,6 @@ public final class StateTest {
         due(when + ": COST 1", x.court(1, 2), 99);
     }
 
-    /** The REFUSALS -1, -2, -3, -4, -6 so far. */
-    private static void refusals(String when, AppealsDown x, int... many) {
-        for (int i = 0; i < 5; i++) {
-            int what = i == 4 ? 16 : 11 + i;
-            due(when + ": count(" + what + ")", x.count(what), many[i]);
-        }
-        due(when + ": count(15)", x.count(15), 0);
-    }
-
     private static void promise1() {
         AppealsDown x = new AppealsDown();
         int[] counts = {0, 4, 100, 6, 0, 0, 0, 0};
@@ -65,7 +56,7 @@ public final class StateTest {
         due("2: the 97th", x.feed(59), -6);
         due("2: the 97th below 0", x.feed(-1), -4);
         due("2: count(4)", x.count(4), 96);
-        refusals("2", x, 0, 0, 0, 3, 3);
+        CHECK.refusals("2", x, 0, 0, 0, 3, 3);
     }
 
     private static void told(String text, int want) {
@@ -140,7 +131,7 @@ public final class StateTest {
         due("3: kind 1", Check.tell(y, "p0+9;s9"), -1007);
         due("3: can be TAKEN BACK still", y.count(6), 1);
         isSome("3: with a FAULT nothing", y);
-        refusals("3: a FAULT is not counted", y, 0, 0, 0, 0, 0);
+        CHECK.refusals("3: a FAULT is not counted", y, 0, 0, 0, 0, 0);
         due("3: without FAULT", Check.tell(y, "l2;"), 1);
         due("3: leaves none", y.back(), -3);
         isSome("3: all stays as it was", y);
@@ -153,7 +144,7 @@ public final class StateTest {
         due("4: court(2, 3)", x.court(2, 3), -1);
         due("4: court(1, 3)", x.court(1, 3), -2);
         due("4: court(1, -1)", x.court(1, -1), -2);
-        refusals("4", x, 3, 2, 0, 0, 0);
+        CHECK.refusals("4", x, 3, 2, 0, 0, 0);
         isSome("4", x);
     }
 
@@ -165,7 +156,7 @@ public final class StateTest {
         due("5: point(0, 10)", x.point(0, 10), HIGH + 6);
         due("5: none of these", x.count(6), 0);
         isSome("5: refused", x);
-        refusals("5", x, 2, 0, 0, 1, 1);
+        CHECK.refusals("5", x, 2, 0, 0, 1, 1);
         due("5: point(0, -9)", x.point(0, -9), 5);
         due("5: point(0, 9)", x.point(0, 9), -9);
         due("5: point(1, 0)", x.point(1, 0), -4);
@@ -184,7 +175,7 @@ public final class StateTest {
         due("6: kind(0, 0, 10)", x.kind(0, 0, 10), -6);
         due("6: none of these", x.count(6), 0);
         isSome("6: refused", x);
-        refusals("6", x, 2, 2, 0, 1, 1);
+        CHECK.refusals("6", x, 2, 2, 0, 1, 1);
         due("6: kind(0, 5, 9)", x.kind(0, 5, 9), 23);
         due("6: kind(0, 0, 0)", x.kind(0, 0, 0), 59);
         due("6: kind(1, 5, 0)", x.kind(1, 5, 0), 50);
@@ -204,7 +195,7 @@ public final class StateTest {
         due("7: lowest(0, 0, 100)", x.lowest(0, 0, 100), -6);
         due("7: none of these", x.count(6), 0);
         isSome("7: refused", x);
-        refusals("7", x, 0, 2, 0, 2, 2);
+        CHECK.refusals("7", x, 0, 2, 0, 2, 2);
         due("7: lowest(3, 9, 99)", x.lowest(3, 9, 99), 3);
         due("7: KIND", x.court(2, 0), 3);
         due("7: FIGURE", x.court(2, 1), 9);
@@ -232,7 +223,7 @@ public final class StateTest {
         due("8: set(2, 9)", x.set(2, 9), -6);
         due("8: refused, they leave it", x.count(6), 1);
         isSome("8: refused", x);
-        refusals("8", x, 0, 2, 0, 3, 3);
+        CHECK.refusals("8", x, 0, 2, 0, 3, 3);
         due("8: set(1, 250)", x.set(1, 250), 250);
         due("8: leaves none, also if all stays", x.back(), -3);
         due("8: set(1, 0)", x.set(1, 0), 250);
@@ -282,7 +273,7 @@ public final class StateTest {
         }
         due("9: older ones no more", x.back(), -3);
         due("9: POINT 0", x.down(0, 0), 1);
-        refusals("9", x, 0, 0, 3, 0, 0);
+        CHECK.refusals("9", x, 0, 0, 3, 0, 0);
         mixed();
         x.point(0, 4);
         x.image();
@@ -335,7 +326,7 @@ public final class StateTest {
         due("46: the 17th", x.row(50), -6);
         due("46: the 17th below", x.row(-1), -4);
         due("46: count(5)", x.count(5), 16);
-        refusals("46", x, 0, 0, 0, 2, 2);
+        CHECK.refusals("46", x, 0, 0, 0, 2, 2);
         due("48: clear()", x.clear(), 16);
         due("48: count(5)", x.count(5), 0);
         due("48: clear() again", x.clear(), 0);
@@ -362,7 +353,7 @@ public final class StateTest {
         y.row(57);
         y.row(48);
         due("47: the first not", y.judge(), 0);
-        refusals("47", y, 0, 0, 0, 0, 0);
+        CHECK.refusals("47", y, 0, 0, 0, 0, 0);
     }
 
     private static void promise49() {
@@ -371,7 +362,7 @@ public final class StateTest {
         due("49: lots(21, 7, 2)", x.lots(21, 7, 2), -6);
         due("49: lots(1, 7, 2)", x.lots(1, 7, 2), -2);
         due("49: lots(1, 7, -1)", x.lots(1, 7, -1), -2);
-        refusals("49", x, 0, 2, 0, 1, 1);
+        CHECK.refusals("49", x, 0, 2, 0, 1, 1);
         for (int seed = -3; seed <= 3; seed++) {
             for (int n = 1; n <= 20; n += 19) {
                 int[] want = lotsByWords(n, seed * 98765431, 4);
@@ -424,7 +415,7 @@ public final class StateTest {
         due("51: letters stay", x.count(4), 2);
         due("51: the ROW stays", x.count(5), 2);
         due("51: none to be TAKEN BACK", x.back(), -3);
-        refusals("51: REFUSALS stay", x, 0, 0, 2, 0, 0);
+        CHECK.refusals("51: REFUSALS stay", x, 0, 0, 2, 0, 0);
         x.set(0, 8);
         x.set(1, 1);
         x.set(2, 1);
@@ -467,7 +458,7 @@ public final class StateTest {
         x.fits(0);
         x.survive(-1);
         x.survive(5);
-        refusals("52", x, 1, 2, 1, 1, 1);
+        CHECK.refusals("52", x, 1, 2, 1, 1, 1);
     }
 
     public static void main(String[] args) {

@@ -4,23 +4,12 @@ public final class WorthTest {
     private static final long HIGH_LONG = 4000000000000000000L;
     private static final Check CHECK = new Check();
 
-    /** Sums going down: 5, 0, 16, -1, -1 (the BOY would send it back), 2, -6. */
-    private static final String LONG =
-            "c0010;c1020;c2005;c3702;c4001;c5000;p0+7;p1-3;p2+9;p3-8;s050;l3;";
-
     private static void due(String call, long got, long want) {
         CHECK.due(call, got, want);
     }
 
-    private static void refusals(String when, AppealsDown x, int... many) {
-        for (int i = 0; i < 5; i++) {
-            int what = i == 4 ? 16 : 11 + i;
-            due(when + ": count(" + what + ")", x.count(what), many[i]);
-        }
-    }
-
     private static void promise23() {
-        AppealsDown x = Check.of(LONG);
+        AppealsDown x = Check.of(Check.LONG);
         int[] lose = {0, 5, 0, 0, 0, 0};
         int[] would = {0, 1, 0, 0, 1, 0};
         for (int k = 0; k < 6; k++) {
@@ -39,10 +28,10 @@ public final class WorthTest {
         due("23: treaty(6, 2)", x.treaty(6, 2), -6);
         due("23: treaty(5, 2)", x.treaty(5, 2), -2);
         due("23: treaty(0, -1)", x.treaty(0, -1), -2);
-        refusals("23", x, 0, 2, 0, 1, 1);
+        CHECK.refusals("23", x, 0, 2, 0, 1, 1);
         AppealsDown z = new AppealsDown();
         due("23: no courts", z.treaty(-1, 2), -3);
-        refusals("23", z, 0, 0, 1, 0, 0);
+        CHECK.refusals("23", z, 0, 0, 1, 0, 0);
     }
 
     private static void promise24() {
@@ -58,7 +47,7 @@ public final class WorthTest {
         due("24: not gone to, whoever would from there", x.share(2), -9);
         due("24: share(3)", x.share(3), -1);
         due("24: share(-1)", x.share(-1), -1);
-        refusals("24", x, 2, 0, 0, 0, 0);
+        CHECK.refusals("24", x, 2, 0, 0, 0, 0);
     }
 
     private static void likely(String text, int t, long above, long below) {
@@ -86,7 +75,7 @@ public final class WorthTest {
         due("25: bedtime(21, 2)", x.bedtime(21, 2), HIGH_LONG + 6);
         due("25: bedtime(2, 2)", x.bedtime(2, 2), HIGH_LONG + 2);
         due("25: bedtime(20, -1)", x.bedtime(20, -1), HIGH_LONG + 2);
-        refusals("25", x, 0, 2, 0, 1, 1);
+        CHECK.refusals("25", x, 0, 2, 0, 1, 1);
     }
 
     private static void promise26and27() {
@@ -126,7 +115,7 @@ public final class WorthTest {
         five.lowest(0, 0, 0);
         due("27: more than 5", five.bestOrder(-2), HIGH + 3);
         due("27: more than 5", five.bestOrder(0), HIGH + 3);
-        refusals("27", five, 0, 0, 2, 1, 0);
+        CHECK.refusals("27", five, 0, 0, 2, 1, 0);
         AppealsDown seven = Check.of(points + "c1000;c3000;c3000;c3000;c3000;c3000;c0000;");
         due("26: of seven", seven.order(), 6);
     }
@@ -141,7 +130,7 @@ public final class WorthTest {
         due("28: none", x.needed(0), -99);
         x.point(1, -8);
         due("28: the greatest", x.needed(0), 9);
-        refusals("28", x, 2, 0, 0, 0, 0);
+        CHECK.refusals("28", x, 2, 0, 0, 0, 0);
         due("28: POINTS stay", x.down(0, 0), 0);
         due("28: the least", Check.of("n1;c1000;").needed(0), -9);
     }
@@ -156,7 +145,7 @@ public final class WorthTest {
     }
 
     private static void promise30() {
-        AppealsDown x = Check.of(LONG);
+        AppealsDown x = Check.of(Check.LONG);
         due("30: the court", x.biggest(0), 2);
         due("30: less", x.biggest(1), -17);
         AppealsDown y = Check.of("n1;p0-5;c1000;c1000;");
@@ -167,7 +156,7 @@ public final class WorthTest {
         due("30: by none", z.biggest(1), 0);
         due("30: biggest(2)", z.biggest(2), HIGH + 2);
         due("30: biggest(-1)", z.biggest(-1), HIGH + 2);
-        refusals("30", z, 0, 2, 0, 0, 0);
+        CHECK.refusals("30", z, 0, 2, 0, 0, 0);
     }
 
     private static void promise31() {
