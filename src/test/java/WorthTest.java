@@ -120,6 +120,47 @@ public final class WorthTest {
         due("26: of seven", seven.order(), 6);
     }
 
+    /** BEST ORDER of five courts, against objects that have them in each order, the first ones first. */
+    private static void promise27InEveryOrder() {
+        String[] courts = {"c0400;", "c1000;", "c2700;", "c3900;", "c4100;", "c5300;"};
+        String[] points = {"n2;p0+4;p1+1;", "n3;p0+9;p1-8;p2+2;", "n3;p0-6;p1-4;p2-5;", "n4;p0-9;p1+9;p2+3;p3-1;",
+            "n2;p0-3;p1-3;l1;", "n5;p0+7;p2+6;p4-7;l2;"};
+        for (String point : points) {
+            for (int without = 0; without < courts.length; without++) {
+                String[] five = new String[5];
+                for (int i = 0; i < 5; i++) {
+                    five[i] = courts[(without + 1 + (without % 2 == 0 ? i : 4 - i)) % 6];
+                }
+                inEveryOrder(point, five);
+            }
+        }
+    }
+
+    private static void inEveryOrder(String point, String[] five) {
+        long most = Long.MIN_VALUE;
+        int[] best = new int[5];
+        for (int number = 0; number < 3125; number++) {
+            int[] order = {number / 625, number / 125 % 5, number / 25 % 5, number / 5 % 5, number % 5};
+            int seen = 0;
+            StringBuilder text = new StringBuilder(point);
+            for (int place : order) {
+                seen |= 1 << place;
+                text.append(five[place]);
+            }
+            if (seen == 31) {
+                int sum = Check.of(text.toString()).down(5, 8);
+                best = sum > most ? order : best;
+                most = Math.max(most, sum);
+            }
+        }
+        String text = point + String.join("", five);
+        AppealsDown x = Check.of(text);
+        due("27: " + text + " most", x.bestOrder(-1), most);
+        for (int i = 0; i < 5; i++) {
+            due("27: " + text + " " + i, x.bestOrder(i), best[i]);
+        }
+    }
+
     private static void promise28() {
         AppealsDown x = Check.of("n2;p1-3;");
         due("28: needed(0)", x.needed(0), 4);
@@ -188,6 +229,7 @@ public final class WorthTest {
         promise24();
         promise25();
         promise26and27();
+        promise27InEveryOrder();
         promise28();
         promise29();
         promise30();
