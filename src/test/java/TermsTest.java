@@ -321,6 +321,11 @@ public final class TermsTest {
     private static void orders() {
         rows("n2;p0+9;p1-8;l8; c5500;c1300;c5900;c2200;c5700;c2500;c5900;", "down(7,8)=-7 order()=56 bestOrder(0)=H3");
         rows("n2;p0-8;p1+4;l8; c4100;c1900;c2100;c2100;c3100;c3700;c5900;", "down(7,8)=-3 order()=25");
+        // (6, -7), (6, -3), the other way (-3, -6), (-4, 6): less, though above 0.
+        rows("n2;p0-6;p1-6;c2000;c0000;", "order()=-9 bestOrder(-1)=3 bestOrder(0)=0");
+        // (-3, -4), (-3, -2), the other way (-3, -5), (-2, -2): more, though below 0.
+        rows("n2;p0-6;p1-5;c4000;c0000;", "order()=1 bestOrder(-1)=-4 bestOrder(0)=1 bestOrder(1)=0");
+        rows("n2;p0-6;p1-5;c4000;c0000;", "peak(0)=2 order()=1 down(0,8)=-11 order()=1");
         rows("c0000;", "order()=-9 bestOrder(-1)=0 bestOrder(0)=0 bestOrder(1)=-9");
         rows("n2;p0+5;p1-3;l8;c3200;c5500;c4800;c3100;c2200;", "bestOrder(-1)=3 bestOrder(0)=4 bestOrder(1)=3"
                 + " bestOrder(2)=2 bestOrder(3)=1 bestOrder(4)=0 bestOrder(5)=-9 bestOrder(max)=-9");
