@@ -1271,21 +1271,28 @@ public final class AppealsDown {
 
         /** Division cuts toward 0, as a COURT does. */
         private void halve(int point) {
-            numbers[point] = numbers[point] / 2;
+            if (has(point)) {
+                numbers[point] = numbers[point] / 2;
+            }
         }
 
         private void turn(int point) {
-            numbers[point] = -numbers[point];
+            if (has(point)) {
+                numbers[point] = -numbers[point];
+            }
         }
 
         private void lessenBehind(int point) {
             int behind = point + 1 < many ? point + 1 : 0;
-            if (many > 1 && numbers[behind] > -MOST_NUMBER) {
+            if (many > 1 && has(behind) && numbers[behind] > -MOST_NUMBER) {
                 numbers[behind]--;
             }
         }
 
         private void bringOver(int point, int figure) {
+            if (!has(point)) {
+                return;
+            }
             if (numbers[point] < 0) {
                 numbers[point] = figure;
             } else if (numbers[point] > 0) {

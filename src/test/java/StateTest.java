@@ -461,7 +461,14 @@ public final class StateTest {
         CHECK.refusals("52", x, 1, 2, 1, 1, 1);
     }
 
+    /** The calls that README.md shows, with the answers it tells. */
+    private static void readme() {
+        CHECK.rows("README", new AppealsDown(), "count(0)=0 count(1)=4 count(2)=100 count(3)=6 lowest(1,0,10)=1"
+                + " point(0,7)=0 down(1,8)=-7 down(1,9)=0 back()=1 'n3;p1-4;'=2 count(1)=3 down(0,1)=-4");
+    }
+
     public static void main(String[] args) {
+        readme();
         promise1();
         promise2();
         promise3();
